@@ -21,7 +21,6 @@ public final class ShedTalk {
     private final Chances chances = new Chances();
     private final Turning turning = new Turning();
     private final Text text = new Text();
-    private final Items items = new Items();
     private final Fraction fraction = new Fraction();
 
     public ShedTalk() {
@@ -282,19 +281,19 @@ public final class ShedTalk {
     }
 
     public int shed() {
-        int fault = items.readFrom(text);
+        int fault = text.readItems();
         if (fault != NONE) {
             return BAD_ASKED - fault;
         }
         draft.copyFrom(now);
         draft.beginAnew();
-        for (int i = 0; i < items.many; i++) {
-            if (items.tell(i, draft) < 0) {
+        for (int i = 0; i < text.items; i++) {
+            if (text.tellItem(i, draft) < 0) {
                 return REFUSED_ITEM - i;
             }
         }
         now.copyFrom(draft);
-        return items.many;
+        return text.items;
     }
 
     public int sign(int what) {
@@ -462,7 +461,7 @@ public final class ShedTalk {
 
     private static final class Floor {
         static final int SIDE = 8, PLACES = 64, WEAVERS = 8, SECONDS = 12;
-        static final int WORDS = 0, TELL = 0;
+        static final int TELL = 0, LOOK = 1, MOUTHS = 0, HANDS = 1, WORDS = 0;
 
         long pillars;
         int weavers;
@@ -479,8 +478,8 @@ public final class ShedTalk {
         void makeEmpty() {
             pillars = 0;
             weavers = 0;
-            farSquare[0] = 18;
-            farSquare[1] = 50;
+            farSquare[MOUTHS] = 18;
+            farSquare[HANDS] = 50;
         }
 
         void copyFrom(Floor other) {
@@ -609,10 +608,10 @@ public final class ShedTalk {
         }
 
         static boolean isBlockedBy(int p, int from, int to) {
-            int down = goesBy(from, to, 2);
-            int right = goesBy(from, to, 1);
-            int pillarDown = goesBy(from, p, 2);
-            int pillarRight = goesBy(from, p, 1);
+            int down = to / SIDE - from / SIDE;
+            int right = to % SIDE - from % SIDE;
+            int pillarDown = p / SIDE - from / SIDE;
+            int pillarRight = p % SIDE - from % SIDE;
             int square = down * down + right * right;
             int along = down * pillarDown + right * pillarRight;
             if (along <= 0 || along >= square) {
@@ -625,7 +624,7 @@ public final class ShedTalk {
 
         // Who could read whom if both faced where they like.
         boolean mayRead(int a, int b) {
-            return squareOfWay(a, b) <= farSquare[0] && isClear(a, b);
+            return squareOfWay(a, b) <= farSquare[MOUTHS] && isClear(a, b);
         }
 
         boolean faceEachOther(int a, int wayOfA, int b, int wayOfB) {
@@ -634,7 +633,7 @@ public final class ShedTalk {
 
         boolean watches(int a, int b) {
             return goesBy(place[a], place[b], way[a]) > 0 && goesBy(place[b], place[a], way[b]) >= 0
-                && squareOfWay(a, b) <= farSquare[1] && isClear(a, b);
+                && squareOfWay(a, b) <= farSquare[HANDS] && isClear(a, b);
         }
 
         boolean perceives(int a, int b, int by) {
@@ -645,6 +644,9 @@ public final class ShedTalk {
         }
 
         int perceiversOf(int b, int by) {
+            if (!isWeaver(b)) {
+                return 0;
+            }
             int bits = 0;
             for (int a = 0; a < weavers; a++) {
                 if (a != b && perceives(a, b, by)) {
@@ -679,7 +681,7 @@ public final class ShedTalk {
                 h = mixed(mixed(h, place[w]), way[w]);
                 h = mixed(mixed(h, tell[w]), look[w]);
             }
-            return mixed(mixed(h, farSquare[0]), farSquare[1]);
+            return mixed(mixed(h, farSquare[MOUTHS]), farSquare[HANDS]);
         }
     }
 
@@ -743,8 +745,8 @@ public final class ShedTalk {
         private final int[] audience = new int[Floor.WEAVERS];
 
         void spread(Floor floor, int start, int begin, int by, int keptFrom) {
-            findAudiences(floor, by);
             for (int w = 0; w < Floor.WEAVERS; w++) {
+                audience[w] = floor.perceiversOf(w, by);
                 since[w] = NONE;
                 toldBy[w] = NONE;
             }
@@ -753,12 +755,6 @@ public final class ShedTalk {
             int everybody = (1 << floor.weavers) - 1;
             for (int t = begin; t < LAST && knowing != everybody; t++) {
                 knowing |= tellInSecond(floor, t, knowing, keptFrom);
-            }
-        }
-
-        private void findAudiences(Floor floor, int by) {
-            for (int w = 0; w < floor.weavers; w++) {
-                audience[w] = floor.perceiversOf(w, by);
             }
         }
 
@@ -790,7 +786,9 @@ public final class ShedTalk {
 
         // As many ways share nobody as it takes others, at least, to leave out so that none is left (Menger).
         int waysApart(Floor floor, int a, int b) {
-            findAudiences(floor, Floor.WORDS);
+            for (int w = 0; w < floor.weavers; w++) {
+                audience[w] = floor.perceiversOf(w, Floor.WORDS);
+            }
             int ends = 1 << a | 1 << b;
             int direct = oneIf(hasBit(audience[a], b));
             audience[a] &= ~(1 << b);
@@ -1401,9 +1399,9 @@ public final class ShedTalk {
             int changed = 0;
             for (int i = 0; i < 1 << 2 * weavers; i++) {
                 countPairs(changed, weavers);
-                int now = pairs[weavers];
-                if (i == 0 || (wantFewest ? now < bestPairs : now > bestPairs)) {
-                    bestPairs = now;
+                int found = pairs[weavers];
+                if (i == 0 || (wantFewest ? found < bestPairs : found > bestPairs)) {
+                    bestPairs = found;
                     System.arraycopy(way, 0, bestWay, 0, MOST_WEAVERS);
                 }
                 changed = turnToNext(weavers);
@@ -1452,11 +1450,26 @@ public final class ShedTalk {
         }
     }
 
+    /** The text: its bytes, its tokens one behind the other, and the items that they make. */
     private static final class Text {
-        static final int MOST = 240;
+        // The shortest item, "far1 1;", has 7 bytes.
+        static final int MOST = 240, MOST_ITEMS = MOST / 7, MOST_NUMBERS = 7;
+        static final int PILLAR = 0, WEAVER = 1, TELL = 2, LOOK = 3, FAR = 4, WORD = 5, LIKE = 6;
+        private static final int[] LEAST_NUMBERS_OF = {1, 2, 3, 3, 2, 2, 2};
+        private static final int[] MOST_NUMBERS_OF = {1, 2, 3, 3, 2, 7, 2};
+        // Kinds of tokens; the names of items have their numbers as kinds.
+        static final int END = -1, STOP = -2, NUMBER = -3, WRONG = -4;
 
         int bytes;
+        int items;
         private final int[] row = new int[MOST];
+        private final int[] itemKind = new int[MOST_ITEMS];
+        private final int[] numbersOf = new int[MOST_ITEMS];
+        private final int[][] number = new int[MOST_ITEMS][MOST_NUMBERS];
+        private int at;
+        private int token;
+        private int tokenAt;
+        private int tokenNumber;
 
         int add(long v, int n) {
             if (!within(n, 1, 8)) {
@@ -1472,126 +1485,106 @@ public final class ShedTalk {
             return bytes;
         }
 
-        int byteAt(int i) {
-            return within(i, 0, bytes - 1) ? row[i] : NONE;
-        }
-
-        // Behind the run of bytes from least to most that begins at a place.
-        int endOfRun(int from, int least, int most) {
-            int end = from;
-            for (int i = from; i < bytes && within(row[i], least, most); i++) {
-                end = i + 1;
-            }
-            return end;
-        }
-
-        boolean spells(int from, int end, String name) {
-            if (end - from != name.length()) {
-                return false;
-            }
-            for (int i = 0; i < name.length(); i++) {
-                if (byteAt(from + i) != name.charAt(i)) {
-                    return false;
-                }
-            }
-            return true;
-        }
-    }
-
-    /** The items of a text, and its tokens one behind the other. */
-    private static final class Items {
-        // The shortest item, "far1 1;", has 7 bytes.
-        static final int MOST = Text.MOST / 7, MOST_NUMBERS = 7;
-        static final int PILLAR = 0, WEAVER = 1, TELL = 2, LOOK = 3, FAR = 4, WORD = 5, LIKE = 6;
-        private static final int[] LEAST_NUMBERS_OF = {1, 2, 3, 3, 2, 2, 2};
-        private static final int[] MOST_NUMBERS_OF = {1, 2, 3, 3, 2, 7, 2};
-        // Kinds of tokens; the names of items have their numbers as kinds.
-        static final int END = -1, STOP = -2, NUMBER = -3, WRONG = -4;
-
-        int many;
-        private final int[] kind = new int[MOST];
-        private final int[] numbers = new int[MOST];
-        private final int[][] number = new int[MOST][MOST_NUMBERS];
-        private int at;
-        private int tokenAt;
-        private int token;
-        private int tokenNumber;
-
         // The fault, or NONE.
-        int readFrom(Text text) {
-            many = 0;
+        int readItems() {
+            items = 0;
             at = 0;
-            for (int i = 0; i <= MOST; i++) {
-                nextToken(text);
+            for (int i = 0; i <= MOST_ITEMS; i++) {
+                nextToken();
                 if (token == END) {
                     return NONE;
                 }
-                if (token < 0 || i == MOST) {
+                if (token < 0 || i == MOST_ITEMS) {
                     return tokenAt;
                 }
-                int fault = readNumbers(text, token, i);
+                int fault = readNumbers(token, i);
                 if (fault != NONE) {
                     return fault;
                 }
-                many++;
+                items++;
             }
             return NONE;
         }
 
-        private int readNumbers(Text text, int item, int i) {
-            kind[i] = item;
-            for (int k = 0; k <= MOST_NUMBERS; k++) {
-                nextToken(text);
-                if (token == STOP && k >= LEAST_NUMBERS_OF[item]) {
-                    numbers[i] = k;
+        private int readNumbers(int kind, int item) {
+            itemKind[item] = kind;
+            for (int i = 0; i <= MOST_NUMBERS; i++) {
+                nextToken();
+                if (token == STOP && i >= LEAST_NUMBERS_OF[kind]) {
+                    numbersOf[item] = i;
                     return NONE;
                 }
-                if (token != NUMBER || k >= MOST_NUMBERS_OF[item]) {
+                if (token != NUMBER || i >= MOST_NUMBERS_OF[kind]) {
                     return tokenAt;
                 }
-                number[i][k] = tokenNumber;
+                number[item][i] = tokenNumber;
             }
             return tokenAt;
         }
 
-        private void nextToken(Text text) {
-            tokenAt = text.endOfRun(at, ' ', ' ');
-            int first = text.byteAt(tokenAt);
+        private void nextToken() {
+            tokenAt = endOfRun(at, ' ', ' ');
+            int first = byteAt(tokenAt);
             at = tokenAt + 1;
             if (first == NONE) {
                 token = END;
             } else if (first == ';') {
                 token = STOP;
             } else if (within(first, '0', '9')) {
-                at = text.endOfRun(tokenAt, '0', '9');
+                at = endOfRun(tokenAt, '0', '9');
                 token = at - tokenAt <= 3 ? NUMBER : WRONG;
-                readNumber(text);
+                readNumber();
             } else if (within(first, 'a', 'z')) {
-                at = text.endOfRun(tokenAt, 'a', 'z');
-                token = itemNamed(text);
+                at = endOfRun(tokenAt, 'a', 'z');
+                token = kindNamed();
             } else {
                 token = WRONG;
             }
         }
 
-        private void readNumber(Text text) {
+        private int byteAt(int i) {
+            return within(i, 0, bytes - 1) ? row[i] : NONE;
+        }
+
+        // Behind the run of bytes from least to most that begins at a place.
+        private int endOfRun(int from, int least, int most) {
+            int end = from;
+            for (int i = from; i < bytes && within(byteAt(i), least, most); i++) {
+                end = i + 1;
+            }
+            return end;
+        }
+
+        private void readNumber() {
             tokenNumber = 0;
             for (int i = tokenAt; i < at && token == NUMBER; i++) {
-                tokenNumber = 10 * tokenNumber + text.byteAt(i) - '0';
+                tokenNumber = 10 * tokenNumber + byteAt(i) - '0';
             }
         }
 
-        private int itemNamed(Text text) {
-            for (int item = PILLAR; item <= LIKE; item++) {
-                if (text.spells(tokenAt, at, nameOf(item))) {
-                    return item;
+        private int kindNamed() {
+            for (int kind = PILLAR; kind <= LIKE; kind++) {
+                if (tokenSpells(nameOf(kind))) {
+                    return kind;
                 }
             }
             return WRONG;
         }
 
-        private static String nameOf(int item) {
-            switch (item) {
+        private boolean tokenSpells(String name) {
+            if (at - tokenAt != name.length()) {
+                return false;
+            }
+            for (int i = 0; i < name.length(); i++) {
+                if (byteAt(tokenAt + i) != name.charAt(i)) {
+                    return false;
+                }
+            }
+            return true;
+        }
+
+        private static String nameOf(int kind) {
+            switch (kind) {
                 case PILLAR:
                     return "pillar";
                 case WEAVER:
@@ -1610,24 +1603,25 @@ public final class ShedTalk {
         }
 
         // Below 0 if it is refused.
-        int tell(int i, Shed shed) {
-            if (!within(i, 0, many - 1)) {
+        int tellItem(int item, Shed shed) {
+            if (!within(item, 0, items - 1)) {
                 return BAD;
             }
-            int[] n = number[i];
-            switch (kind[i]) {
+            int[] n = number[item];
+            Floor floor = shed.floor;
+            switch (itemKind[item]) {
                 case PILLAR:
-                    return shed.floor.putPillar(n[0]);
+                    return floor.putPillar(n[0]);
                 case WEAVER:
-                    return shed.floor.putWeaver(n[0], n[1]);
+                    return floor.putWeaver(n[0], n[1]);
                 case TELL:
-                    return shed.floor.setFree(n[0], 0, n[1], n[2]);
+                    return floor.setFree(n[0], Floor.TELL, n[1], n[2]);
                 case LOOK:
-                    return shed.floor.setFree(n[0], 1, n[1], n[2]);
+                    return floor.setFree(n[0], Floor.LOOK, n[1], n[2]);
                 case FAR:
-                    return Math.min(shed.floor.setFar(0, n[0]), shed.floor.setFar(1, n[1]));
+                    return Math.min(floor.setFar(Floor.MOUTHS, n[0]), floor.setFar(Floor.HANDS, n[1]));
                 case WORD:
-                    return tellWord(n, numbers[i] - 1, shed.lexicon);
+                    return tellWord(n, numbersOf[item] - 1, shed.lexicon);
                 default:
                     return shed.lexicon.makeAlike(n[0], n[1]);
             }
