@@ -299,7 +299,7 @@ public final class ShedTalk {
     public int sign(int what) {
         switch (what) {
             case 0:
-                return fraction.sign();
+                return fraction.signNumber();
             case 1:
                 return fraction.above.limbs;
             case 2:
@@ -1236,7 +1236,7 @@ public final class ShedTalk {
             below.put(1);
         }
 
-        int sign() {
+        int signNumber() {
             return above.limbs == 0 ? 0 : 1;
         }
 
@@ -1270,7 +1270,7 @@ public final class ShedTalk {
         }
 
         long digestOnto(long before) {
-            long h = mixed(mixed(mixed(before, sign()), above.limbs), below.limbs);
+            long h = mixed(mixed(mixed(before, signNumber()), above.limbs), below.limbs);
             return below.digestOnto(above.digestOnto(h));
         }
     }
@@ -1543,7 +1543,7 @@ public final class ShedTalk {
         }
 
         private int byteAt(int i) {
-            return within(i, 0, bytes - 1) ? row[i] : NONE;
+            return i >= 0 && i < bytes ? row[i] : NONE;
         }
 
         // Behind the run of bytes from least to most that begins at a place.
