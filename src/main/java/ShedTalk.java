@@ -461,7 +461,7 @@ public final class ShedTalk {
 
     private static final class Floor {
         static final int SIDE = 8, PLACES = 64, WEAVERS = 8, SECONDS = 12;
-        static final int TELL = 0, LOOK = 1, MOUTHS = 0, HANDS = 1, WORDS = 0;
+        static final int TELL = 0, LOOK = 1, MOUTHS = 0, HANDS = 1, WORDS = 0, SIGNS = 1;
 
         long pillars;
         int weavers;
@@ -656,6 +656,20 @@ public final class ShedTalk {
             return bits;
         }
 
+        // Whom one has before her eyes, by her mouth or by her hands.
+        int seenBy(int a) {
+            if (!isWeaver(a)) {
+                return 0;
+            }
+            int bits = 0;
+            for (int b = 0; b < weavers; b++) {
+                if (a != b && (perceives(a, b, WORDS) || perceives(a, b, SIGNS))) {
+                    bits |= 1 << b;
+                }
+            }
+            return bits;
+        }
+
         int tellersIn(int second) {
             int bits = 0;
             for (int w = 0; w < weavers; w++) {
@@ -751,23 +765,24 @@ public final class ShedTalk {
                 toldBy[w] = NONE;
             }
             since[start] = begin;
+            // She from whom it is kept hinders by READING and by WATCHING alike, whichever way the news goes.
+            int watched = floor.seenBy(keptFrom);
             int knowing = 1 << start;
             int everybody = (1 << floor.weavers) - 1;
             for (int t = begin; t < LAST && knowing != everybody; t++) {
-                knowing |= tellInSecond(floor, t, knowing, keptFrom);
+                int lookers = floor.lookersIn(t);
+                int hindered = keptFrom != NONE && hasBit(lookers, keptFrom) ? watched : 0;
+                int tellers = knowing & floor.tellersIn(t) & ~hindered;
+                knowing |= tellInSecond(t, tellers, lookers & ~knowing);
             }
         }
 
-        private int tellInSecond(Floor floor, int t, int knowing, int keptFrom) {
-            int tellers = knowing & floor.tellersIn(t);
-            int lookers = floor.lookersIn(t);
-            int unwanted = keptFrom == NONE ? 0 : 1 << keptFrom;
+        private int tellInSecond(int t, int tellers, int hearers) {
             int told = 0;
-            for (int w = 0; w < floor.weavers; w++) {
-                int eyes = audience[w] & lookers;
-                if (hasBit(tellers, w) && (eyes & unwanted) == 0) {
+            for (int w = 0; w < Floor.WEAVERS; w++) {
+                if (hasBit(tellers, w)) {
                     // Those whom a lesser weaver told in this second are told already.
-                    int fresh = eyes & ~knowing & ~told;
+                    int fresh = audience[w] & hearers & ~told;
                     write(fresh, t + 1, w);
                     told |= fresh;
                 }

@@ -72,12 +72,52 @@ public final class NewsTest {
         Due.due("and on past her", x.knows(0, 3, 0, 2), 6);
         Due.due("2 knows nothing", x.knows(0, 2, 0, 2), -1);
         Due.due("0 herself is told", x.knows(3, 0, 0, 2), 6);
-        // 2 watches 0 from beside, and can not read her: words may go on before her eyes.
+        promise9KeptFromEitherWay();
+    }
+
+    private static void promise9KeptFromEitherWay() {
+        // 2 watches 0 from beside, and can not read her: she hinders words, too.
         ShedTalk y = Due.told("weaver 0 1;weaver 2 3;weaver 24 0;");
         Due.due("2 watches 0", y.sees(2, 0, 1), 1);
         Due.due("2 does not read 0", y.sees(2, 0, 0), 0);
         Due.due("signs are kept", y.knows(0, 1, 1, 2), -1);
-        Due.due("words are not seen", y.knows(0, 1, 0, 2), 1);
+        Due.due("words are kept", y.knows(0, 1, 0, 2), -1);
+        Due.due("so nobody told her", y.teller(0, 1, 0, 2), -1);
+        y.free(2, 1, 4, 11);
+        Due.due("2 looks from 4 on", y.knows(0, 1, 0, 2), 1);
+        y.free(2, 1, 0, 3);
+        Due.due("2 does not look in 4", y.knows(0, 1, 0, 2), 5);
+        Due.due("0 told her", y.teller(0, 1, 0, 2), 0);
+        y.free(0, 0, 2, 2);
+        Due.due("0 tells in 2 alone, when 2 looks", y.knows(0, 1, 0, 2), -1);
+        y.free(0, 0, 4, 4);
+        y.free(1, 1, 4, 4);
+        Due.due("signs in 4, past her", y.knows(0, 1, 1, 2), 5);
+        Due.due("2 knows nothing", y.knows(0, 2, 0, 2), -1);
+        Due.due("2 reads 1", y.sees(2, 1, 0), 1);
+        y.free(0, 1, 4, 5);
+        Due.due("back, past 2 who reads 1", y.knows(1, 0, 0, 2), 5);
+        // 2 reads 0 from too far to watch her: she hinders signs, too.
+        ShedTalk z = Due.told("far 50 4;weaver 0 1;weaver 2 3;weaver 4 3;");
+        Due.due("2 reads 0", z.sees(2, 0, 0), 1);
+        Due.due("2 does not watch 0", z.sees(2, 0, 1), 0);
+        Due.due("signs, kept from nobody", z.knows(0, 1, 1, -1), 1);
+        Due.due("signs, kept from 2", z.knows(0, 1, 1, 2), -1);
+        Due.due("nobody told her", z.teller(0, 1, 1, 2), -1);
+        z.free(2, 1, 0, 0);
+        Due.due("signs in 1", z.knows(0, 1, 1, 2), 2);
+        Due.due("by 0", z.teller(0, 1, 1, 2), 0);
+        // 1 and 2 read 0 and are read by 3; 4 watches 1 alone.
+        ShedTalk v = Due.told("far 18 16;weaver 4 2;weaver 20 0;weaver 21 0;weaver 5 2;weaver 16 1;");
+        for (int w = 0; w < 4; w++) {
+            Due.due("4 reads not " + w, v.sees(4, w, 0), 0);
+            Due.due("4 watches " + w, v.sees(4, w, 1), w == 1 ? 1 : 0);
+        }
+        Due.due("by 1, kept from nobody", v.teller(0, 3, 0, -1), 1);
+        Due.due("by 2, as 1 is hindered", v.teller(0, 3, 0, 4), 2);
+        Due.due("as soon", v.knows(0, 3, 0, 4), 2);
+        v.free(4, 1, 2, 11);
+        Due.due("by 1 while 4 does not look", v.teller(0, 3, 0, 4), 1);
     }
 
     private static void promise10() {

@@ -235,7 +235,8 @@ final class ShedModel {
                 }
                 for (int v = n - 1; v >= 0; v--) {
                     boolean knew = since[v] != -1 && since[v] <= t;
-                    boolean caught = x != -1 && sees[x][v] && now.weavers.get(x).look[t % 12];
+                    boolean caught = x != -1 && (perceives(x, v, 0) || perceives(x, v, 1))
+                        && now.weavers.get(x).look[t % 12];
                     if (knew && now.weavers.get(v).tell[t % 12] && sees[u][v] && !caught) {
                         since[u] = t + 1;
                         teller[u] = v;
