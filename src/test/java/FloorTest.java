@@ -5,13 +5,19 @@ public final class FloorTest {
     public static void main(String[] args) {
         promise1();
         promise2();
+        promise2FullFloor();
         promise3();
+        promise3RowsAndColumns();
         promise4();
         promise5();
+        promise5EachSecond();
         promise6();
+        promise6Bounds();
         promise7Reads();
         promise7Watches();
+        promise7FrontAndBehind();
         promise8();
+        promise8EveryPillar();
         Due.end();
     }
 
@@ -51,6 +57,29 @@ public final class FloorTest {
         Due.due("pillars", x.count(0), 3);
     }
 
+    private static void promise2FullFloor() {
+        ShedTalk x = new ShedTalk();
+        for (int p = 0; p < 64; p++) {
+            Due.due("pillar(" + p + ")", x.pillar(p), 1);
+            Due.due("pillars", x.count(0), p + 1);
+        }
+        for (int p = 0; p < 64; p++) {
+            Due.due("pillar(" + p + ") again", x.pillar(p), -3);
+            Due.due("weaver on it", x.weaver(p, 0), -2);
+        }
+        Due.due("pillar(64) of a full floor", x.pillar(64), -2);
+        Due.due("pillars", x.count(0), 64);
+        Due.due("weavers", x.count(1), 0);
+        ShedTalk y = new ShedTalk();
+        y.weaver(63, 0);
+        for (int p = 0; p < 63; p++) {
+            y.pillar(p);
+        }
+        Due.due("all but where she is", y.count(0), 63);
+        Due.due("where she is", y.pillar(63), -2);
+        Due.due("no other one", y.weaver(62, 0), -2);
+    }
+
     private static void promise3() {
         ShedTalk x = new ShedTalk();
         x.pillar(9);
@@ -67,6 +96,32 @@ public final class FloorTest {
         Due.due("a ninth with no such face", x.weaver(20, 4), -2);
         Due.due("a ninth on a PILLAR", x.weaver(9, 0), -2);
         Due.due("weavers", x.count(1), 8);
+    }
+
+    private static void promise3RowsAndColumns() {
+        // The end of a row is not beside the beginning of the next: 7 is (0, 7), 8 is (1, 0).
+        Due.due("right of 7 is nothing", readsFacing(7, 1, 8, 3), 0);
+        Due.due("8 is left of 7", readsFacing(7, 3, 8, 1), 1);
+        Due.due("8 is below 7", readsFacing(7, 2, 8, 0), 1);
+        Due.due("8 is below 0", readsFacing(0, 2, 8, 0), 1);
+        Due.due("up is to lesser rows", readsFacing(0, 0, 8, 2), 0);
+        Due.due("1 is right of 0", readsFacing(0, 1, 1, 3), 1);
+        Due.due("left is to lesser columns", readsFacing(0, 3, 1, 1), 0);
+        Due.due("corner to corner", readsFacing(0, 1, 63, 0), 1);
+        Due.due("corner to corner", readsFacing(0, 2, 63, 3), 1);
+        Due.due("corner to corner", readsFacing(7, 3, 56, 0), 1);
+        Due.due("corner to corner", readsFacing(7, 1, 56, 0), 0);
+        ShedTalk x = new ShedTalk();
+        for (int w = 0; w < 4; w++) {
+            Due.due("each face", x.weaver(63 - w, w), w);
+            Due.due("as she came", x.face(w, w), w);
+        }
+    }
+
+    private static int readsFacing(int place, int face, int other, int otherFace) {
+        ShedTalk x = Due.told("far 98 98;weaver " + place + " " + face + ";weaver " + other + " " + otherFace + ";");
+        Due.due("and back", x.sees(1, 0, 0), x.sees(0, 1, 0));
+        return x.sees(0, 1, 0);
     }
 
     private static void promise4() {
@@ -105,6 +160,28 @@ public final class FloorTest {
         Due.due("as it was", x.knows(0, 1, 0, -1), 5);
     }
 
+    private static void promise5EachSecond() {
+        for (int t = 0; t < 12; t++) {
+            ShedTalk x = Due.told("weaver 9 1;weaver 12 3;");
+            x.free(0, 0, t, t);
+            Due.due("TELL in " + t + " alone, LOOK in all at first", x.knows(0, 1, 0, -1), t + 1);
+            Due.due("TELL in all at first", x.knows(1, 0, 0, -1), 1);
+            x.free(1, 1, t, t);
+            Due.due("LOOK in " + t + " too", x.knows(0, 1, 0, -1), t + 1);
+            x.free(0, 0, 0, 11);
+            Due.due("TELL in all again", x.knows(0, 1, 0, -1), t + 1);
+            Due.due("her LOOK is not her TELL", x.knows(1, 0, 0, -1), 1);
+            if (t > 0) {
+                x.free(0, 0, 0, t - 1);
+                Due.due("up to the one ahead", x.knows(0, 1, 0, -1), -1);
+            }
+            if (t < 11) {
+                x.free(0, 0, t + 1, 11);
+                Due.due("from the next one on", x.knows(0, 1, 0, -1), -1);
+            }
+        }
+    }
+
     private static void promise6() {
         ShedTalk x = Due.told("weaver 0 1;weaver 7 3;");
         Due.due("49 is too far", x.sees(0, 1, 0), 0);
@@ -124,6 +201,34 @@ public final class FloorTest {
             Due.due("far(" + b[0] + ", " + b[1] + ")", x.far(b[0], b[1]), -2);
         }
         Due.due("far as it was", x.far(0, 1), 48);
+    }
+
+    private static void promise6Bounds() {
+        // At first 18 of MOUTHS, 50 of HANDS: 3 by 3 and 1 by 7; the next squares there are 20 and 52.
+        Due.due("18 is 18 at most", firstSees(0, 27, 0), 1);
+        Due.due("20 is not", firstSees(0, 34, 0), 0);
+        Due.due("50 is 50 at most", firstSees(0, 57, 1), 1);
+        Due.due("50 is 50 at most", firstSees(0, 45, 1), 1);
+        Due.due("52 is not", firstSees(0, 52, 1), 0);
+        int[][] squares = {{1, 8}, {2, 9}, {4, 16}, {98, 63}};
+        for (int[] s : squares) {
+            ShedTalk x = Due.told("weaver 0 2;weaver " + s[1] + " 0;");
+            for (int what = 0; what <= 1; what++) {
+                x.far(what, s[0]);
+                Due.due("FAR " + s[0] + " is far enough", x.sees(0, 1, what), 1);
+                if (s[0] > 1) {
+                    x.far(what, s[0] - 1);
+                    Due.due("one less is not", x.sees(0, 1, what), 0);
+                }
+            }
+        }
+    }
+
+    private static int firstSees(int from, int to, int what) {
+        ShedTalk x = new ShedTalk();
+        x.weaver(from, 2);
+        x.weaver(to, 0);
+        return x.sees(0, 1, what);
     }
 
     private static void promise7Reads() {
@@ -165,6 +270,32 @@ public final class FloorTest {
         Due.due("past a PILLAR", y.sees(0, 1, 0), 0);
     }
 
+    // From (3, 3), facing each way, to all other places: in FRONT by more than nothing, behind by less.
+    private static void promise7FrontAndBehind() {
+        int[] down = {-1, 0, 1, 0}, right = {0, 1, 0, -1};
+        for (int face = 0; face < 4; face++) {
+            for (int place = 0; place < 64; place++) {
+                if (place == 27) {
+                    continue;
+                }
+                int by = (place / 8 - 3) * down[face] + (place % 8 - 3) * right[face];
+                for (int other = 0; other < 4; other++) {
+                    int back = (3 - place / 8) * down[other] + (3 - place % 8) * right[other];
+                    ShedTalk x = new ShedTalk();
+                    x.far(0, 98);
+                    x.far(1, 98);
+                    x.weaver(27, face);
+                    x.weaver(place, other);
+                    String ways = "27 facing " + face + ", " + place + " facing " + other;
+                    Due.due(ways + ": reads", x.sees(0, 1, 0), by > 0 && back > 0 ? 1 : 0);
+                    Due.due(ways + ": is read", x.sees(1, 0, 0), by > 0 && back > 0 ? 1 : 0);
+                    Due.due(ways + ": watches", x.sees(0, 1, 1), by > 0 && back >= 0 ? 1 : 0);
+                    Due.due(ways + ": is watched", x.sees(1, 0, 1), back > 0 && by >= 0 ? 1 : 0);
+                }
+            }
+        }
+    }
+
     private static void promise8() {
         Due.due("straight through", clearPast(0, 2, 1), 0);
         Due.due("past the end", clearPast(0, 2, 3), 1);
@@ -200,5 +331,31 @@ public final class FloorTest {
         ShedTalk x = Due.told("weaver " + from + " 0;weaver " + to + " 0;pillar " + pillar + ";");
         Due.due("the same back", x.clear(1, 0), x.clear(0, 1));
         return x.clear(0, 1);
+    }
+
+    // Ways of each kind, past a PILLAR in every place.
+    private static void promise8EveryPillar() {
+        int[][] ways = {{0, 1}, {0, 7}, {0, 56}, {0, 63}, {7, 56}, {27, 29}, {27, 43}, {27, 45}, {0, 10}, {0, 17}, {9, 54}, {62, 1},
+            {15, 48}, {24, 39}};
+        for (int[] way : ways) {
+            for (int p = 0; p < 64; p++) {
+                if (p == way[0] || p == way[1]) {
+                    continue;
+                }
+                Due.due("from " + way[0] + " to " + way[1] + " past " + p, clearPast(way[0], way[1], p),
+                    isNear(way[0], way[1], p) ? 0 : 1);
+            }
+        }
+    }
+
+    // By 839 points of the way: no square of a nearest way lies between 24 by 97 and a quarter, so these are enough.
+    private static boolean isNear(int from, int to, int p) {
+        double nearest = 99;
+        for (int i = 1; i < 840; i++) {
+            double down = from / 8 + (to / 8 - from / 8) * i / 840.0 - p / 8;
+            double right = from % 8 + (to % 8 - from % 8) * i / 840.0 - p % 8;
+            nearest = Math.min(nearest, down * down + right * right);
+        }
+        return nearest < 0.2499;
     }
 }

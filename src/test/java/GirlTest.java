@@ -6,13 +6,20 @@ public final class GirlTest {
 
     public static void main(String[] args) {
         promise26();
+        promise26Ten();
         promise27();
+        promise27Pairs();
         promise28();
+        promise28EachKnown();
         promise29();
+        promise29Ten();
         promise30();
+        promise30Bounds();
         promise31();
+        promise31Bounds();
         promise32();
         promise32Rows();
+        promise32Six();
         Due.end();
     }
 
@@ -30,6 +37,22 @@ public final class GirlTest {
         Due.due("no words", new ShedTalk().girl(0), 0);
     }
 
+    private static void promise26Ten() {
+        ShedTalk x = new ShedTalk();
+        for (int words = 1; words <= 10; words++) {
+            x.word(1, 0, 1);
+            int all = (1 << words) - 1;
+            Due.due("one bit too many for " + words, x.girl(all + 1), -2);
+            Due.due("all " + words, x.girl(all), all >> 1);
+            Due.due("all " + words + ", once more", x.girl(all), all);
+        }
+        Due.due("an eleventh bit", x.girl(1024), -2);
+        Due.due("as she knew", x.girl(0), 1023);
+        x.girl(512);
+        x.word(1, 0, 1);
+        Due.due("a WORD that is refused is not known", x.girl(512), 512);
+    }
+
     private static void promise27() {
         ShedTalk x = Due.told(WORDS);
         Due.due("she knows none", x.gets(), 0);
@@ -43,6 +66,34 @@ public final class GirlTest {
         ShedTalk y = Due.told("word 9 0;word 8 1;like 0 1;");
         y.girl(3);
         Due.due("the first is the heaviest", y.gets(), 1);
+    }
+
+    // Two words of all WEIGHTS: the heavier is got, of as heavy ones the first, of unlike ones both.
+    private static void promise27Pairs() {
+        for (int weight = 1; weight <= 9; weight++) {
+            for (int other = 1; other <= 9; other++) {
+                ShedTalk x = Due.told("word " + weight + " 0;word " + other + " 1;");
+                x.girl(3);
+                Due.due("unlike, " + weight + " and " + other, x.gets(), 3);
+                x.like(0, 1);
+                Due.due("alike, " + weight + " and " + other, x.gets(), weight >= other ? 1 : 2);
+                x.girl(2);
+                Due.due("the other alone", x.gets(), 2);
+                x.girl(1);
+                Due.due("the one alone", x.gets(), 1);
+                x.girl(0);
+                Due.due("none", x.gets(), 0);
+            }
+        }
+        ShedTalk y = new ShedTalk();
+        Due.due("no WORDS", y.gets(), 0);
+        for (int w = 0; w < 10; w++) {
+            y.word(1, 0, 9);
+        }
+        for (int w = 0; w < 10; w++) {
+            y.girl(1023 >> w << w);
+            Due.due("of as heavy ones the first", y.gets(), 1 << w);
+        }
     }
 
     private static void promise28() {
@@ -64,6 +115,26 @@ public final class GirlTest {
         Due.tell(y, "");
         Due.due("no WORDS", y.share(), -3);
         Due.fraction("changing nothing", y, 1, 1);
+    }
+
+    private static void promise28EachKnown() {
+        ShedTalk x = Due.told("word 1 0;word 2 1;word 4 2;");
+        int[] above = {0, 1, 2, 3, 4, 5, 6, 1}, below = {1, 7, 7, 7, 7, 7, 7, 1};
+        for (int known = 0; known < 8; known++) {
+            x.girl(known);
+            Due.due("share", x.share(), 1);
+            Due.fraction("known " + known, x, above[known], below[known]);
+        }
+        ShedTalk y = new ShedTalk();
+        for (int w = 0; w < 10; w++) {
+            y.word(1, w % 5, 9);
+        }
+        y.girl(1023);
+        y.share();
+        Due.fraction("45 of 90", y, 1, 2);
+        y.girl(31);
+        y.share();
+        Due.fraction("45 of 90", y, 1, 2);
     }
 
     private static void promise29() {
@@ -93,6 +164,35 @@ public final class GirlTest {
         Due.due("no words", new ShedTalk().teach(1), -2);
     }
 
+    private static void promise29Ten() {
+        ShedTalk x = new ShedTalk();
+        for (int w = 0; w < 10; w++) {
+            x.word(2, w, w < 9 ? w + 1 : 9);
+        }
+        int[] best = {0, 256, 768, 896, 960, 992, 1008, 1016, 1020, 1022, 1023};
+        for (int k = 0; k <= 10; k++) {
+            Due.due("the heaviest " + k, x.teach(k), best[k]);
+        }
+        Due.due("eleven", x.teach(11), -2);
+        for (int known = 1; known <= 10; known++) {
+            x.girl((1 << known) - 1);
+            Due.due("all that are left", x.teach(10 - known), 1024 - (1 << known));
+            Due.due("one more than are left", x.teach(11 - known), -2);
+            Due.due("none", x.teach(0), 0);
+        }
+        ShedTalk y = new ShedTalk();
+        for (int w = 0; w < 10; w++) {
+            y.word(1, 0, 9);
+        }
+        for (int k = 0; k <= 10; k++) {
+            Due.due("of like ones the least", y.teach(k), (1 << k) - 1);
+        }
+        y.girl(1);
+        Due.due("nothing is won, the least that she does not know", y.teach(1), 2);
+        Due.due("nothing is won", y.teach(9), 1022);
+        Due.due("ten are not left", y.teach(10), -2);
+    }
+
     private static void promise30() {
         ShedTalk x = new ShedTalk();
         int[][] bad = {{-1, 0, 0}, {6, 0, 0}, {0, -1, 0}, {0, 100, 0}, {0, 0, -1}, {0, 0, 10}, {MIN, 0, 0}, {MAX, 0, 0},
@@ -108,6 +208,49 @@ public final class GirlTest {
         Due.due("one", x.heard(0, 0), 32);
         Due.due("a text leaves them", Due.tell(x, ""), 0);
         Due.due("one", x.heard(0, 0), 32);
+    }
+
+    private static void promise30Bounds() {
+        for (int band = 0; band < 6; band++) {
+            ShedTalk x = new ShedTalk();
+            Due.due("nothing at first", x.heard(0, 0), 0);
+            Due.due("LEVEL 0", x.band(band, 0, 0), 1);
+            Due.due("is not above 0", x.heard(0, 0), 0);
+            Due.due("LEVEL 1", x.band(band, 1, 0), 1);
+            Due.due("is above 0", x.heard(0, 0), 1 << band);
+            Due.due("is not above 1", x.heard(0, 1), 0);
+            Due.due("for 60 years", x.heard(60, 0), 1 << band);
+            Due.due("LEVEL 99, LOSS 9", x.band(band, 99, 9), 1);
+            Due.due("10 years", x.heard(10, 8), 1 << band);
+            Due.due("10 years", x.heard(10, 9), 0);
+            Due.due("11 years", x.heard(11, 0), 0);
+            Due.due("LEVEL 99, LOSS 0", x.band(band, 99, 0), 1);
+            Due.due("60 years", x.heard(60, 98), 1 << band);
+            Due.due("60 years", x.heard(60, 99), 0);
+        }
+    }
+
+    // LEVEL 99 less LOSS a year is above NOISE or not, for all that there are.
+    private static void promise31Bounds() {
+        for (int loss = 0; loss <= 9; loss++) {
+            ShedTalk x = new ShedTalk();
+            x.band(3, 99, loss);
+            for (int years = 0; years <= 60; years++) {
+                int left = 99 - loss * years;
+                if (left > 0 && left <= 99) {
+                    Due.due(left + " above " + (left - 1), x.heard(years, left - 1), 8);
+                }
+                if (left >= 0) {
+                    Due.due(left + " not above itself", x.heard(years, left), 0);
+                } else {
+                    Due.due(left + " not above 0", x.heard(years, 0), 0);
+                }
+            }
+            Due.due("a year ahead", x.heard(-1, 0), -2);
+            Due.due("a 61st", x.heard(61, 0), -2);
+            Due.due("less than no NOISE", x.heard(0, -1), -2);
+            Due.due("NOISE of 100", x.heard(0, 100), -2);
+        }
     }
 
     private static void promise31() {
@@ -195,5 +338,36 @@ public final class GirlTest {
             }
         }
         Due.due("as the looms are turned", pairs, 9);
+    }
+
+    // From nobody to six in a row: each who looks right and each right of her who looks left; the first way has more of
+    // those who look right, if they are odd.
+    private static void promise32Six() {
+        StringBuilder text = new StringBuilder("far 98 98;");
+        for (int n = 0; n <= 6; n++) {
+            ShedTalk x = Due.told(text.toString());
+            long before = x.digest();
+            Due.due("most of " + n, x.anew(0, -1), n * n / 4);
+            Due.due("fewest of " + n, x.anew(1, -1), 0);
+            for (int w = 0; w < n; w++) {
+                Due.due("most, " + w + " of " + n, x.anew(0, w), n == 1 ? 0 : 2 * w < n ? 1 : 3);
+                Due.due("fewest, " + w + " of " + n, x.anew(1, w), 0);
+            }
+            Due.due("one who is not there", x.anew(0, n), -10);
+            Due.due("nobody is turned by it", x.digest(), before);
+            text.append("weaver ").append(24 + n).append(" 2;");
+        }
+        ShedTalk seven = Due.told(text.toString());
+        Due.due("seven", seven.anew(0, -1), -20);
+        Due.due("the last of seven", seven.anew(1, 6), -20);
+        Due.due("an eighth of seven", seven.anew(1, 7), -10);
+        // At the bound of MOUTHS and one below it.
+        ShedTalk y = Due.told("far 5 98;weaver 0 0;weaver 10 0;");
+        Due.due("5 is 5 at most", y.anew(0, -1), 1);
+        Due.due("0 right", y.anew(0, 0), 1);
+        Due.due("1 up", y.anew(0, 1), 0);
+        y.far(0, 4);
+        Due.due("5 is above 4", y.anew(0, -1), 0);
+        Due.due("of like ones the first", y.anew(0, 0), 0);
     }
 }

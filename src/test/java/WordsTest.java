@@ -7,6 +7,7 @@ public final class WordsTest {
     public static void main(String[] args) {
         promise15();
         promise16();
+        promise16Digits();
         promise17();
         promise18();
         promise19();
@@ -14,12 +15,19 @@ public final class WordsTest {
         promise20Best();
         promise20Anew();
         promise20None();
+        promise20EachPlace();
         promise21();
+        promise21Ten();
         promise22();
+        promise22Ten();
         promise23();
         promise24();
+        promise24Cut();
+        promise24EachTurn();
         promise24Large();
+        promise24Ten();
         promise25();
+        promise25EachTurn();
         Due.end();
     }
 
@@ -72,6 +80,36 @@ public final class WordsTest {
         y.lip(2);
         y.lip(1);
         Due.due("3 2 1", y.reads(-1), 0);
+    }
+
+    // The least and the greatest digits of each number of LIPS, the first LIP the highest.
+    private static void promise16Digits() {
+        int above = 1;
+        for (int n = 1; n <= 6; n++) {
+            above *= 6;
+            ShedTalk x = new ShedTalk();
+            Due.due("digits one too many for " + n, x.word(n, above, 1), -2);
+            Due.due("the greatest of " + n, x.word(n, above - 1, 9), 0);
+            Due.due("the least of " + n, x.word(n, 0, 1), 1);
+            say(x, 5, n);
+            Due.due("5 in each place of " + n, x.reads(0), 0);
+            x.hush();
+            say(x, 0, n);
+            Due.due("0 in each place of " + n, x.reads(0), 1);
+            Due.due("all of it", x.reads(24), 1);
+            for (int at = 0; at < n; at++) {
+                ShedTalk y = new ShedTalk();
+                int digit = 1;
+                for (int i = at + 1; i < n; i++) {
+                    digit *= 6;
+                }
+                y.word(n, 3 * digit, 1);
+                for (int i = 0; i < n; i++) {
+                    y.lip(i == at ? 3 : 0);
+                }
+                Due.due("a 3 in place " + at + " of " + n, y.reads(-1), 1);
+            }
+        }
     }
 
     private static void promise17() {
@@ -218,6 +256,28 @@ public final class WordsTest {
         Due.due("no words, a ROW", y.reads(-1), 0);
     }
 
+    // Words of one LIP each, so that the place in the best reading is the place in the ROW: 0 to 23.
+    private static void promise20EachPlace() {
+        ShedTalk x = new ShedTalk();
+        for (int lip = 0; lip < 6; lip++) {
+            x.word(1, 5 - lip, 1);
+        }
+        for (int i = 0; i < 24; i++) {
+            x.lip(i * i % 6);
+            Due.due("how many of " + (i + 1), x.reads(24), i + 1);
+            Due.due("behind the last", x.reads(i + 1 > 23 ? 25 : i + 1), i + 1 > 23 ? -10 : -5);
+        }
+        for (int i = 0; i < 24; i++) {
+            Due.due("in place " + i, x.reads(i), 5 - i * i % 6);
+        }
+        // Of as few words as heavy together the first row of WORDS, though another word would begin it as well.
+        ShedTalk y = Due.told("word 2 0 0;word 3 0 0 0;word 2 0 0 0 0;word 3 0;");
+        say(y, 0, 5);
+        Due.due("two", y.reads(24), 2);
+        Due.due("0 and 1 are as heavy as 1 and 0, 2 and 3, 3 and 2", y.reads(0), 0);
+        Due.due("the heavier follows", y.reads(1), 1);
+    }
+
     private static void promise21() {
         ShedTalk x = Due.told("word 5 1 2;word 3 2 1;word 2 1;word 9 2 2;like 1 2;word 4 3;word 7 3;");
         Due.due("mistaken(0)", x.mistaken(0), 15 + 45 + 27 + 28);
@@ -235,6 +295,41 @@ public final class WordsTest {
         Due.due("mistaken(0) behind gets()", x.mistaken(0), 115);
         Due.due("no words", new ShedTalk().mistaken(0), 0);
         Due.due("no words", new ShedTalk().mistaken(1), -2);
+    }
+
+    private static ShedTalk tenAlike() {
+        ShedTalk x = new ShedTalk();
+        for (int w = 0; w < 10; w++) {
+            x.word(1, 0, 9);
+        }
+        return x;
+    }
+
+    private static void promise21Ten() {
+        ShedTalk x = tenAlike();
+        Due.due("45 pairs", x.mistaken(0), 45 * 81);
+        for (int k = 1; k <= 10; k++) {
+            Due.due("SIGNS of the first " + k, x.mistaken((1 << k) - 1), (10 - k) * (9 - k) / 2 * 81);
+            Due.due("SIGNS of the last " + k, x.mistaken(1023 - (1023 >> k)), (10 - k) * (9 - k) / 2 * 81);
+        }
+        Due.due("an eleventh bit", x.mistaken(1024), -2);
+        ShedTalk y = Due.told("word 1 0;");
+        Due.due("one is never mistaken", y.mistaken(0), 0);
+        Due.due("its SIGN", y.mistaken(1), 0);
+        Due.due("a SIGN of none", y.mistaken(2), -2);
+    }
+
+    private static void promise22Ten() {
+        ShedTalk x = tenAlike();
+        for (int k = 0; k <= 10; k++) {
+            Due.due("k = " + k + ", of like ones the least", x.signs(k), (1 << k) - 1);
+        }
+        Due.due("k = 11", x.signs(11), -2);
+        ShedTalk y = Due.told("word 1 0;word 2 0;word 3 0;");
+        Due.due("the last", y.signs(1), 4);
+        Due.due("the last two: one is left, so two first ones are as good", y.signs(2), 3);
+        Due.due("three", y.signs(3), 7);
+        Due.due("more than there are", y.signs(4), -2);
     }
 
     private static void promise22() {
@@ -302,6 +397,120 @@ public final class WordsTest {
         Due.fraction("1 by 4, cut: never", z, 0, 1);
     }
 
+    // A WEIGHT of 9 by 1, 2, 4, 8, 16, 32, 64, cut, beside 20.
+    private static void promise24Cut() {
+        int[] cut = {9, 4, 2, 1, 0, 0, 0};
+        int ones = 0;
+        for (int unlike = 0; unlike <= 6; unlike++) {
+            ShedTalk x = new ShedTalk();
+            x.word(6, 0, 1);
+            x.word(6, ones, 9);
+            x.arrives(0, 1, 1);
+            int divisor = BigInteger.valueOf(20 + cut[unlike]).gcd(BigInteger.valueOf(cut[unlike])).intValue();
+            Due.fraction(unlike + " LIPS unlike", x, cut[unlike] / divisor, (20 + cut[unlike]) / divisor);
+            x.like(0, 1);
+            x.arrives(0, 1, 1);
+            Due.fraction("all alike", x, 9, 29);
+            ones = 6 * ones + 1;
+        }
+        // What is another one is its own WEIGHT, what is itself is CLEAR.
+        ShedTalk y = Due.told("word 9 0;word 1 0;");
+        y.arrives(0, 1, 1);
+        Due.fraction("by the WEIGHT of the other one", y, 1, 21);
+        y.arrives(1, 0, 1);
+        Due.fraction("by the WEIGHT of the other one", y, 9, 29);
+        y.plain(1);
+        y.arrives(0, 0, 1);
+        Due.fraction("the least CLEAR", y, 1, 2);
+        y.plain(99);
+        y.arrives(0, 0, 1);
+        Due.fraction("the greatest CLEAR", y, 99, 100);
+    }
+
+    /** The chances behind n, of words that are all alike: above, by the product of all totals n times. */
+    private static BigInteger[] above(int clear, int[] weights, int word, int n) {
+        BigInteger[] now = new BigInteger[weights.length];
+        for (int w = 0; w < weights.length; w++) {
+            now[w] = BigInteger.valueOf(w == word ? 1 : 0);
+        }
+        for (int i = 0; i < n; i++) {
+            BigInteger[] next = new BigInteger[weights.length];
+            for (int as = 0; as < weights.length; as++) {
+                next[as] = BigInteger.ZERO;
+                for (int w = 0; w < weights.length; w++) {
+                    BigInteger heard = BigInteger.valueOf(as == w ? clear : weights[as]);
+                    next[as] = next[as].add(now[w].multiply(heard).multiply(product(clear, weights))
+                        .divide(BigInteger.valueOf(total(clear, weights, w))));
+                }
+            }
+            now = next;
+        }
+        return now;
+    }
+
+    private static int total(int clear, int[] weights, int w) {
+        int total = clear - weights[w];
+        for (int weight : weights) {
+            total += weight;
+        }
+        return total;
+    }
+
+    private static BigInteger product(int clear, int[] weights) {
+        BigInteger product = BigInteger.ONE;
+        for (int w = 0; w < weights.length; w++) {
+            product = product.multiply(BigInteger.valueOf(total(clear, weights, w)));
+        }
+        return product;
+    }
+
+    private static ShedTalk alikeWords(int clear, int[] weights) {
+        ShedTalk x = new ShedTalk();
+        for (int weight : weights) {
+            x.word(1, 0, weight);
+        }
+        x.plain(clear);
+        return x;
+    }
+
+    private static void lowestTerms(ShedTalk x, BigInteger above, BigInteger below) {
+        BigInteger divisor = above.gcd(below);
+        large(x, above.divide(divisor), below.divide(divisor));
+    }
+
+    private static void promise24EachTurn() {
+        int[] weights = {6, 8, 1};
+        ShedTalk x = alikeWords(20, weights);
+        for (int n = 1; n <= 12; n++) {
+            BigInteger below = product(20, weights).pow(n);
+            for (int as = 0; as < 3; as++) {
+                Due.due("row of " + n, x.arrives(0, as, n), 1);
+                lowestTerms(x, above(20, weights, 0, n)[as], below);
+            }
+        }
+    }
+
+    // Ten words, one of whom makes 180, the others less: the longest numbers that there are.
+    private static void promise24Ten() {
+        int[][] rows = {{1, 9, 9, 9, 9, 9, 9, 9, 9, 9}, {9, 8, 7, 6, 5, 4, 3, 2, 1, 1}, {9, 9, 9, 9, 9, 9, 9, 9, 9, 9},
+            {1, 2, 3, 4, 5, 6, 7, 8, 9, 9}, {1, 1, 1, 1, 1, 1, 1, 1, 1, 1}};
+        for (int[] weights : rows) {
+            for (int clear = 94; clear <= 99; clear++) {
+                ShedTalk x = alikeWords(clear, weights);
+                x.arrives(1, 9, 12);
+                lowestTerms(x, above(clear, weights, 1, 12)[9], product(clear, weights).pow(12));
+                x.arrives(0, 0, 12);
+                lowestTerms(x, above(clear, weights, 0, 12)[0], product(clear, weights).pow(12));
+            }
+        }
+        // 179 makes the total of 0 alone, and must not stand below what 1 is heard as.
+        ShedTalk x = alikeWords(98, rows[0]);
+        x.arrives(1, 1, 1);
+        Due.fraction("98 of 98, 1 and eight 9", x, 98, 171);
+        x.arrives(0, 0, 1);
+        Due.fraction("98 of 98 and nine 9", x, 98, 179);
+    }
+
     // (1 + (1/3)^12) by 2, of two like words that are heard as themselves with 2 of 3.
     private static void promise24Large() {
         ShedTalk x = Due.told("word 5 0;word 5 0;");
@@ -325,7 +534,7 @@ public final class WordsTest {
         Due.due("sign", y.sign(0), 1);
         Due.due("limbs above", y.sign(1), (above.bitLength() + 29) / 30);
         Due.due("limbs below", y.sign(2), (below.bitLength() + 29) / 30);
-        for (int i = 0; i < 4; i++) {
+        for (int i = 0; i < 1 + Math.max(y.sign(1), y.sign(2)); i++) {
             Due.due("limb above " + i, y.limb(0, i), i < y.sign(1) ? above.shiftRight(30 * i).intValue() & 1073741823 : -1);
             Due.due("limb below " + i, y.limb(1, i), i < y.sign(2) ? below.shiftRight(30 * i).intValue() & 1073741823 : -1);
         }
@@ -356,5 +565,50 @@ public final class WordsTest {
         Due.due("above 5 by 9 behind twelve", y.turns(0, 5, 9), -1);
         Due.due("below 5 by 8", y.turns(0, 5, 8), 8);
         Due.due("the last of twelve", y.turns(0, 9, 16), 12);
+    }
+
+    // Two alike words of all WEIGHTS: the first turn by which itself times b is below all times a, by whole numbers.
+    private static void promise25EachTurn() {
+        int[] clears = {1, 9, 40, 76, 99};
+        int[][] bounds = {{1, 2}, {5, 9}, {77, 95}, {32, 50}, {2, 8}, {1, 9}, {82, 98}, {99, 99}, {99, 98}, {0, 1}, {99, 1}, {1, 99},
+            {98, 99}, {50, 99}, {49, 99}};
+        for (int clear : clears) {
+            for (int weight = 1; weight <= 9; weight++) {
+                int[] weights = {weight, 10 - weight};
+                ShedTalk x = alikeWords(clear, weights);
+                for (int[] bound : bounds) {
+                    turnsAsDue(x, clear, weights, bound[0], bound[1]);
+                }
+            }
+            int[] light = {1, 2};
+            ShedTalk y = alikeWords(clear, light);
+            for (int a = 0; a <= 99; a++) {
+                turnsAsDue(y, clear, light, a, 99);
+                turnsAsDue(y, clear, light, a, 98);
+            }
+            // Of ten words what stands below is long at once.
+            int[] ten = {1, 2, 3, 4, 5, 6, 7, 8, 9, 9};
+            ShedTalk z = alikeWords(clear, ten);
+            for (int a = 0; a <= 99; a += 9) {
+                turnsAsDue(z, clear, ten, a, 1);
+                turnsAsDue(z, clear, ten, a, 50);
+                turnsAsDue(z, clear, ten, a, 99);
+            }
+        }
+    }
+
+    private static void turnsAsDue(ShedTalk x, int clear, int[] weights, int a, int b) {
+        String call = "CLEAR " + clear + ", WEIGHT " + weights[0] + ": turns(0, " + a + ", " + b + ")";
+        Due.due(call, x.turns(0, a, b), firstBelow(clear, weights, a, b));
+    }
+
+    private static int firstBelow(int clear, int[] weights, int a, int b) {
+        for (int n = 1; n <= 12; n++) {
+            BigInteger itself = above(clear, weights, 0, n)[0].multiply(BigInteger.valueOf(b));
+            if (itself.compareTo(product(clear, weights).pow(n).multiply(BigInteger.valueOf(a))) < 0) {
+                return n;
+            }
+        }
+        return -1;
     }
 }
