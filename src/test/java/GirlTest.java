@@ -20,6 +20,7 @@ public final class GirlTest {
         promise32();
         promise32Rows();
         promise32Six();
+        promise32Again();
         Due.end();
     }
 
@@ -369,5 +370,29 @@ public final class GirlTest {
         y.far(0, 4);
         Due.due("5 is above 4", y.anew(0, -1), 0);
         Due.due("of like ones the first", y.anew(0, 0), 0);
+    }
+
+    // Asked again when less is seen than before, and of one who is too far for all.
+    private static void promise32Again() {
+        ShedTalk x = Due.told("far 98 98;weaver 24 2;weaver 25 2;weaver 26 2;weaver 27 2;weaver 28 2;weaver 29 2;");
+        Due.due("each half the other one", x.anew(0, -1), 9);
+        x.far(0, 4);
+        Due.due("two away at most: right, right, left, right, left, left", x.anew(0, -1), 4);
+        x.far(0, 1);
+        Due.due("one away at most: three couples", x.anew(0, -1), 3);
+        for (int w = 0; w < 6; w++) {
+            Due.due("each other", x.anew(0, w), w % 2 == 0 ? 1 : 3);
+        }
+        x.far(0, 98);
+        Due.due("as before", x.anew(0, -1), 9);
+        int[] besides = {0, 17, 2};
+        for (int place : besides) {
+            // 1 stands in (0, 1); 2 is left of her, below her, right of her.
+            ShedTalk y = Due.told("far 4 98;weaver 63 2;weaver 1 0;weaver " + place + " 0;");
+            Due.due("0 is too far", y.anew(0, -1), 1);
+            Due.due("so she looks up", y.anew(0, 0), 0);
+            Due.due("1 looks to 2", y.anew(0, 1), place == 0 ? 3 : place == 17 ? 2 : 1);
+            Due.due("2 looks to 1", y.anew(0, 2), place == 0 ? 1 : place == 17 ? 0 : 3);
+        }
     }
 }

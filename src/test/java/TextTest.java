@@ -417,6 +417,16 @@ public final class TextTest {
             }
             Due.due("above 0", x.sign(0), 1);
         }
+        // Short ones behind a long one, in lowest terms all the same.
+        x.girl(3);
+        x.word(1, 1, 8);
+        x.share();
+        Due.fraction("8 of 24", x, 1, 3);
+        x.arrives(0, 0, 12);
+        Due.due("long again", x.sign(2) > 2 ? 1 : 0, 1);
+        x.plain(1);
+        x.arrives(2, 2, 1);
+        Due.fraction("1 of 1 and twice 4", x, 1, 9);
         x.girl(0);
         x.share();
         Due.fraction("0 again", x, 0, 1);
