@@ -4,6 +4,7 @@ import java.lang.reflect.Method;
 import java.lang.reflect.Modifier;
 import java.nio.file.Files;
 import java.nio.file.Path;
+import java.util.ArrayDeque;
 import java.util.Arrays;
 import java.util.Set;
 import java.util.TreeSet;
@@ -12,6 +13,7 @@ import java.util.regex.Pattern;
 
 /** The face of the class, and the rules of LANGUAGE.md that can be seen from outside or from the words of the file. */
 public final class LanguageTest {
+    private static final int MAX = Integer.MAX_VALUE;
     private static final String[] FACE = {
         "int pillar(int)", "int weaver(int,int)", "int face(int,int)", "int free(int,int,int,int)", "int far(int,int)",
         "int sees(int,int,int)", "int clear(int,int)", "int knows(int,int,int,int)", "int teller(int,int,int,int)",
@@ -74,7 +76,7 @@ public final class LanguageTest {
         }
         for (Method m : type.getDeclaredMethods()) {
             Due.due(m + " takes seven at most", Math.max(7, m.getParameterCount()), 7);
-            if (!Modifier.isPublic(m.getModifiers())) {
+            if (Modifier.isPrivate(m.getModifiers())) {
                 Due.due(m + " has no public one's name", names.contains(m.getName()) ? 1 : 0, 0);
             }
         }
@@ -92,32 +94,34 @@ public final class LanguageTest {
     private static void words(String source) {
         String bare = source.replaceAll("(?s)/\\*.*?\\*/", "").replaceAll("//[^\n]*", "")
             .replaceAll("\"[^\"\n]*\"", "\"\"").replaceAll("'[^'\n]+'", "0");
-        String[] none = {"\\bthrow", "\\btry\\b", "\\bcatch\\b", "\\bsynchronized\\b", "\\bassert\\b", "->", "::",
-            "\\bimport\\b", "\\bpackage\\b", "\\bwhile\\b", "\\bfloat\\b", "\\bdouble\\b", "Exact\\(", "\\bstatic \\{",
-            "\\bThread\\b", "\\bimplements\\b", "\\bextends\\b", "\\[\\]\\[\\]\\[\\]", "for \\(;", "; ;", ";;"};
+        String[] none = {"\\bthrow", "\\btry\\b", "\\bcatch\\b", "\\bsynchronized\\b", "\\bassert\\b", "\\bThread\\b", "::",
+            "^(?!\\s*(case|default)\\b).*->", "\\bpackage\\b", "\\bimport (?!java\\.util\\.)", "Exact\\(", "\\bstatic \\{",
+            "\\bnew \\w+(<\\w*>)?\\([^)]*\\) *\\{", "\\[\\]\\[\\]\\[\\]", "for *\\( *; *; *\\)", "while *\\( *true *\\)"};
         for (String word : none) {
-            Due.due("the file has " + word, Pattern.compile(word).matcher(bare).find() ? 1 : 0, 0);
+            Matcher found = Pattern.compile(word, Pattern.MULTILINE).matcher(bare);
+            Due.due("the file has " + word, found.find() ? 1 : 0, 0);
         }
-        Matcher library = Pattern.compile("\\b(System|Math|Integer|Long|Arrays|String|StringBuilder)\\.(\\w+)").matcher(bare);
-        Set<String> used = new TreeSet<>();
-        while (library.find()) {
-            used.add(library.group(1) + "." + library.group(2));
-        }
-        used.removeAll(Set.of("System.arraycopy", "Math.min", "Math.max", "Integer.bitCount", "Long.bitCount"));
-        Due.due("the library's others " + used, used.size(), 0);
+        String library = "System\\.(?!arraycopy\\b)|Arrays\\.(?!(copyOf|copyOfRange|fill)\\b)|String\\.|List\\.(?!of\\b)"
+            + "|(Math|Integer|Long)\\.(parse|to|valueOf|random|sqrt|pow|floor\\b|ceil|round)";
+        Matcher other = Pattern.compile("\\b(" + library + ")\\w*").matcher(bare);
+        Due.due("the file has more of the library", other.find() ? 1 : 0, 0);
         methodsAreShort(bare);
     }
 
     private static void methodsAreShort(String bare) {
-        int open = 0;
+        ArrayDeque<Integer> opened = new ArrayDeque<>();
         String[] lines = bare.split("\n");
         for (int i = 0; i < lines.length; i++) {
-            if (lines[i].matches("( {4}| {8})(\\w.*)?\\w+\\(.*\\) \\{")) {
-                open = i;
-            }
-            if (lines[i].matches("( {4}| {8})\\}")) {
-                Due.due("lines up to " + i, Math.max(60, lines[i].startsWith("     ") ? i - open : 0), 60);
+            boolean isMethod = lines[i].matches("\\s+(?!if\\b|for\\b|while\\b|switch\\b|do\\b|else\\b|\\}).*\\w+\\(.*\\{\\s*");
+            for (char c : lines[i].toCharArray()) {
+                if (c == '{') {
+                    opened.push(isMethod ? i : MAX);
+                } else if (c == '}' && !opened.isEmpty()) {
+                    int from = opened.pop();
+                    Due.due("lines of the method that ends in " + (i + 1), Math.max(60, i + 1 - from), 60);
+                }
             }
         }
+        Due.due("braces that are open", opened.size(), 0);
     }
 }

@@ -70,11 +70,11 @@ public final class NewsTest {
 
     // SECOND 12 is 0 again, and nobody tells in the SECOND in which she is told.
     private static void promise9Round() {
-        ShedTalk x = Due.told("far 5 5;weaver 0 2;weaver 17 0;weaver 2 2;");
-        Due.due("0 is read by 1", x.sees(1, 0, 0), 1);
-        Due.due("1 is read by 2", x.sees(2, 1, 0), 1);
-        Due.due("0 is not read by 2", x.sees(2, 0, 0), 0);
         for (int t = 0; t < 12; t++) {
+            ShedTalk x = Due.told("far 5 5;weaver 0 2;weaver 17 0;weaver 2 2;");
+            Due.due("0 is read by 1", x.sees(1, 0, 0), 1);
+            Due.due("1 is read by 2", x.sees(2, 1, 0), 1);
+            Due.due("0 is not read by 2", x.sees(2, 0, 0), 0);
             for (int u = 0; u < 12; u++) {
                 x.free(0, 0, t, t);
                 x.free(1, 0, u, u);
@@ -248,8 +248,8 @@ public final class NewsTest {
         Due.due("known from 240 on: none is later", x.meet(4, 0, 239, 1), 1);
         Due.due("begun in 240", x.meet(4, 0, 240, 0), 1);
         Due.due("0 herself is told by nobody else", x.meet(4, 0, 240, 3), -1);
-        ShedTalk y = Due.told(RING);
         for (int s = 0; s <= 240; s++) {
+            ShedTalk y = Due.told(RING);
             int due = s < 1 ? 1 : s == 1 ? 2 : 0;
             Due.due("1 hears of 0 from 1 on, begins in " + s, y.meet(0, 1, s, 1), due);
             due = s < 2 ? 1 : s == 2 ? 2 : 0;

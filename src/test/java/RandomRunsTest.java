@@ -4,7 +4,8 @@ import java.util.Random;
 
 /** Runs of calls by seeds that stand here, each answer compared with the model's. */
 public final class RandomRunsTest {
-    private static final int RUNS = 600, CALLS = 512;
+    // What an object answers behind its 512th call is free.
+    private static final int RUNS = 1200, CALLS = 512;
 
     private final Random random;
     private ShedTalk program = new ShedTalk();
@@ -29,23 +30,24 @@ public final class RandomRunsTest {
 
     private boolean run(long seed) {
         int kind = (int) (seed % 4);
-        for (int i = 0; i < CALLS; i++) {
+        for (int i = 1; mayCall(); i++) {
             call(pick(kind));
-            boolean same = got == want;
-            if (same && i % 16 == 15) {
-                told.add("digest()");
-                got = program.digest();
-                want = model.digest();
-                same = got == want;
+            if (got == want && i % 16 == 0 && mayCall()) {
+                say("digest");
+                due(program.digest(), model.digest());
             }
-            if (!same) {
-                System.out.println("seed " + seed + ", call " + i + ":");
+            if (got != want) {
+                System.out.println("seed " + seed + ", call " + told.size() + ":");
                 told.forEach(System.out::println);
                 System.out.println("answered " + got + ", the model " + want);
                 return false;
             }
         }
         return true;
+    }
+
+    private boolean mayCall() {
+        return told.size() < CALLS;
     }
 
     /** Each kind of run has calls that it makes more often. */
@@ -75,15 +77,15 @@ public final class RandomRunsTest {
     }
 
     private int weaver() {
-        return v(0, Math.max(0, program.count(1) - 1));
+        return v(0, Math.max(0, model.count(1) - 1));
     }
 
     private int word() {
-        return v(0, Math.max(0, program.count(3) - 1));
+        return v(0, Math.max(0, model.count(3) - 1));
     }
 
     private int words() {
-        return v(0, (1 << program.count(3)) - 1);
+        return v(0, (1 << model.count(3)) - 1);
     }
 
     private int place() {
@@ -180,7 +182,7 @@ public final class RandomRunsTest {
     }
 
     private void callOnWords(int which) {
-        int w = word(), o = word(), bits = words(), l = v(0, 5), m = v(0, 5), k = v(0, program.count(3));
+        int w = word(), o = word(), bits = words(), l = v(0, 5), m = v(0, 5), k = v(0, model.count(3));
         switch (which) {
             case 13:
                 say("like", l, m);
@@ -366,7 +368,7 @@ public final class RandomRunsTest {
     }
 
     private void typeAll(String text) {
-        for (int at = 0; at < text.length(); at += 8) {
+        for (int at = 0; at < text.length() && mayCall(); at += 8) {
             long v = random.nextBoolean() ? 0 : -1;
             int n = Math.min(8, text.length() - at);
             for (int i = 0; i < n; i++) {
@@ -381,16 +383,18 @@ public final class RandomRunsTest {
     }
 
     private void tellWholeText() {
-        program.erase();
-        model.erase();
         say("erase");
+        due(program.erase(), model.erase());
+        if (got != want) {
+            return;
+        }
         StringBuilder b = new StringBuilder();
         int items = random.nextInt(12);
         for (int i = 0; i < items; i++) {
             b.append(i == 0 ? "weaver 0 2;" : i == 1 ? "weaver 16 0;" : item());
         }
         typeAll(b.toString());
-        if (got == want) {
+        if (got == want && mayCall()) {
             say("shed");
             due(program.shed(), model.shed());
         }

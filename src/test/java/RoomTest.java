@@ -1,22 +1,19 @@
 import java.lang.management.ManagementFactory;
 
-/** All calls of a run live in one room: a call makes no object, an object and its parts are small. */
+/** An object and all its calls live in one room, the dearest ones, too: 600,000 objects of sixteen bytes at least. */
 public final class RoomTest {
     private static final com.sun.management.ThreadMXBean THREAD =
         (com.sun.management.ThreadMXBean) ManagementFactory.getThreadMXBean();
+    private static final long ROOM = 600000 * 16;
 
     public static void main(String[] args) {
         // Once ahead, so that what the machine itself loads is not counted.
         run(full());
-        ShedTalk x = full();
         long before = bytes();
+        ShedTalk x = full();
         run(x);
         long made = bytes() - before;
-        Due.due("bytes made in a run of calls are few: " + made, Math.max(2000, made), 2000);
-        before = bytes();
-        new ShedTalk();
-        made = bytes() - before;
-        Due.due("bytes of an object are few: " + made, Math.max(60000, made), 60000);
+        Due.due("bytes made by an object and its calls: " + made, Math.max(ROOM, made), ROOM);
         Due.end();
     }
 
@@ -34,11 +31,13 @@ public final class RoomTest {
             x.seen(i % 6, i, true);
         }
         x.girl(5);
+        x.image(0);
         return x;
     }
 
+    // Some 500 calls with those that made the object.
     private static void run(ShedTalk x) {
-        for (int i = 0; i < 24; i++) {
+        for (int i = 0; i < 22; i++) {
             x.sees(0, 1, i % 2);
             x.clear(0, 1);
             x.knows(0, 1, i % 2, 3);
@@ -55,9 +54,9 @@ public final class RoomTest {
             x.share();
             x.teach(i % 8);
             x.anew(i % 2, i % 6);
+            x.image(1);
             x.shed();
-            x.image(i % 2);
-            x.from(i % 2);
+            x.from(0);
             x.digest();
         }
     }

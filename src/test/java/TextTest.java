@@ -308,30 +308,30 @@ public final class TextTest {
             "word 0 1", "word 10 1", "word 5 6", "word 5 0 6", "word 5 6 0", "word 5 0 999", "like 0 6", "like 6 0",
             "like 1 1", "like 0 1;like 1 0", "like 0 1;like 1 2;like 0 2", "weaver 999 999",
         };
-        ShedTalk x = Due.told("weaver 63 1;word 5 1;pillar 0;far 7 8;like 3 4;");
-        x.seen(0, 5, true);
-        x.lip(1);
-        x.girl(1);
         for (String text : texts) {
+            ShedTalk x = Due.told("weaver 63 1;word 5 1;pillar 0;far 7 8;like 3 4;");
+            x.seen(0, 5, true);
+            x.lip(1);
+            x.girl(1);
             x.erase();
-            Due.type(x, text);
-            x.type(';', 1);
+            Due.type(x, text + ";");
             long before = x.digest();
             int item = text.split(";").length - 1;
             Due.due("'" + text + ";'", x.shed(), -1000 - item);
             Due.due("nothing changes by '" + text + ";'", x.digest(), before);
         }
+        ShedTalk y = new ShedTalk();
         StringBuilder nine = new StringBuilder();
         for (int i = 0; i < 9; i++) {
             nine.append("weaver").append(i).append(" 0;");
         }
-        Due.due("nine WEAVERS", Due.tell(x, nine.toString()), -1008);
+        Due.due("nine WEAVERS", Due.tell(y, nine.toString()), -1008);
         StringBuilder eleven = new StringBuilder();
         for (int i = 0; i < 11; i++) {
             eleven.append("word1 0;");
         }
-        Due.due("eleven WORDS", Due.tell(x, eleven.toString()), -1010);
-        Due.due("the first of two", Due.tell(x, "pillar 5;pillar 64;pillar 5;"), -1001);
+        Due.due("eleven WORDS", Due.tell(y, eleven.toString()), -1010);
+        Due.due("the first of two", Due.tell(y, "pillar 5;pillar 64;pillar 5;"), -1001);
     }
 
     private static void promise35Anew() {
@@ -587,9 +587,10 @@ public final class TextTest {
             x.lip(0);
             Due.due("LIPS", x.count(4), Math.min(24, i));
         }
+        ShedTalk y = new ShedTalk();
         for (int i = 1; i <= 241; i++) {
-            x.type(0, 1);
-            Due.due("bytes", x.count(5), Math.min(240, i));
+            y.type(0, 1);
+            Due.due("bytes", y.count(5), Math.min(240, i));
         }
     }
 

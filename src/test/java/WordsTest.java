@@ -480,8 +480,8 @@ public final class WordsTest {
 
     private static void promise24EachTurn() {
         int[] weights = {6, 8, 1};
-        ShedTalk x = alikeWords(20, weights);
         for (int n = 1; n <= 12; n++) {
+            ShedTalk x = alikeWords(20, weights);
             BigInteger below = product(20, weights).pow(n);
             for (int as = 0; as < 3; as++) {
                 Due.due("row of " + n, x.arrives(0, as, n), 1);
